@@ -672,14 +672,10 @@ public final class RightKeys {
         final int[] stack = new int[STACK];
 
         Laws() {
-            putDefaults();
+            clear();
         }
 
         void clear() {
-            putDefaults();
-        }
-
-        private void putDefaults() {
             size = 0;
             putDefault(LETS, NUMBER, 1);
             putDefault(QUARREL, VARIABLE, WAITED);

@@ -16,6 +16,7 @@ public final class TextTest {
         firstByPlace();
         faultChangesNothing();
         newTextBeginsAnew();
+        nothingIsLeftOfOldTexts();
         Calls.end();
     }
 
@@ -54,6 +55,7 @@ public final class TextTest {
         Calls.due("zeros ahead", Calls.told("house a 0001 02 003;").house(0, 1), 2);
         Calls.due("eight letters", Calls.told("house abcdefgh 1 2 3;both abcdefgh;").house(0, 6), 1);
         Calls.due("words with more letters", Calls.told("house houses 1 2 3;house hous 1 2 3;house hourz 1 2 3;").count(0), 3);
+        Calls.due("words with another letter", Calls.told("house mouse 1 2 3;house kate 1 2 3;house heys 1 2 3;").count(0), 3);
         Calls.fault("house abcdefghi 1 2 3;", 1, 6);
         Calls.fault("house a 00001 2 3;", 1, 8);
         Calls.fault("housea 1 2 3;", 1, 0);
@@ -264,5 +266,36 @@ public final class TextTest {
         Calls.due("no houses", keys.count(0), 0);
         Calls.due("no spares", keys.count(1), 0);
         Calls.due("hour", keys.count(2), 0);
+    }
+
+    private static void nothingIsLeftOfOldTexts() {
+        RightKeys keys = Calls.told("house a 1 2 3;");
+        String[] told = {"house a 1 3 4;house b 1 2 4;spare a a;spare a b;both a;both b;seed 3;rent=5;quarrel=9;late=100;lets=0;",
+            "house a 99 2 3;both a;seed 5;rent=7;lets=0;late=100;", "both a", "lets=((((((("};
+        for (int i = 0; i < 3 * told.length; i++) {
+            for (int j = 0; j <= i % 3; j++) {
+                Calls.feed(keys, told[(i + j) % told.length]);
+                keys.read();
+                keys.hours(26);
+                keys.hours(1);
+            }
+            Calls.feed(keys, "house c 5 6 7;house d 8 9 1;");
+            Calls.due("read", keys.read(), 0);
+            Calls.due("place", keys.place(), -1);
+            Calls.due("spares", keys.count(1), 0);
+            Calls.due("rents", keys.count(16), 4);
+            Calls.due("by a spare", keys.count(14), 0);
+            for (int house = 0; house < 2; house++) {
+                Calls.due("both", keys.house(house, 6), 0);
+                Calls.due("late", keys.house(house, 8), 0);
+                Calls.due("waited", keys.house(house, 4), 0);
+                Calls.due("whose name", keys.house(house, 7), house);
+                Calls.due("lets", keys.lets(house, 1 - house), 1);
+            }
+            Calls.due("nobody is late", keys.then(0, 7, 0), 0);
+            Calls.feed(keys, "house c 5 6 7;house d 4 9 1;late=21;lets=0;");
+            keys.read();
+            Calls.due("seed 0", keys.year(7, 1), Model.lot(100, 0, 32 * 6) < 21 ? 1 : 0);
+        }
     }
 }
