@@ -2,14 +2,20 @@
 final class Calls {
     private static int wrong = 0;
     private static int asked = 0;
+    private static String words = "";
 
     private Calls() { }
+
+    /** The document's words that the next answers are there for: a wrong answer is printed with them. */
+    static void sentence(String document) {
+        words = "[" + document + "] ";
+    }
 
     static void due(String call, long got, long want) {
         asked++;
         if (got != want) {
             wrong++;
-            System.out.println(call + " answered " + got + ", due is " + want);
+            System.out.println(words + call + " answered " + got + ", due is " + want);
         }
     }
 
