@@ -28,6 +28,7 @@ public final class EdgeCallsTest {
         hoursZero();
         undoNothing();
         undoEach();
+        undoOneByOne();
         undoForty();
         openers();
         stand();
@@ -63,6 +64,8 @@ public final class EdgeCallsTest {
         restoreNothing();
         restoreStays();
         count();
+        countWhere();
+        countBits();
         countUndone();
         countSlots();
         countLetIn();
@@ -334,7 +337,7 @@ public final class EdgeCallsTest {
 
     private static void undoEach() {
         Calls.sentence("13: The last thing done (keep, pass, change, hours) is undone");
-        RightKeys keys = Calls.told("house a 1 3 0;house b 9 9 0;spare a b;lets=0;late=100;");
+        RightKeys keys = Calls.told("house a 1 3 0;house b 9 9 0;house c 2 5 0;spare a b;spare c c;lets=0;late=if which<1 then 100 else 0;");
         int[] fresh = State.of(keys);
         Calls.due("keep", keys.keep(1, true) && keys.undo(), true);
         State.same("keep undone", fresh, State.of(keys));
@@ -342,8 +345,30 @@ public final class EdgeCallsTest {
         State.same("pass undone", fresh, State.of(keys));
         Calls.due("change", keys.change(0, 1) && keys.undo(), true);
         State.same("change undone", fresh, State.of(keys));
-        Calls.due("hours", keys.hours(5) == 5 && keys.undo(), true);
+        keys.hours(6);
+        Calls.due("c was let in by a SPARE", keys.count(14), 1);
+        Calls.due("hours", keys.undo(), true);
         State.same("hours undone", fresh, State.of(keys));
+    }
+
+    private static void undoOneByOne() {
+        Calls.sentence("13: The last thing done .. is undone");
+        RightKeys keys = Calls.told("house a 1 3 0;house b 9 9 0;spare a b;lets=0;");
+        keys.keep(1, true);
+        int[] first = State.of(keys);
+        keys.pass(0, 0);
+        int[] second = State.of(keys);
+        keys.change(0, 1);
+        int[] third = State.of(keys);
+        keys.hours(30);
+        keys.undo();
+        State.same("hours", third, State.of(keys));
+        keys.undo();
+        State.same("change", second, State.of(keys));
+        keys.undo();
+        State.same("pass", first, State.of(keys));
+        keys.undo();
+        Calls.due("keep", keys.count(8), 0);
     }
 
     private static void undoForty() {
@@ -603,6 +628,13 @@ public final class EdgeCallsTest {
         Calls.due("none again", keys.forget(), 0);
         Calls.due("TOLD ones", keys.count(11), 0);
         Calls.due("KNOWN by 1", keys.overslept(1, 0), -1);
+        keys.tell(0, true);
+        keys.forget();
+        Calls.due("TOLD anew, the other way", keys.tell(0, false), 0);
+        Calls.due("a alone", keys.overslept(1, 1), 1);
+        keys.forget();
+        keys.tell(0, true);
+        Calls.due("b alone", keys.overslept(1, 1), 2);
     }
 
     private static void overslept() {
@@ -732,6 +764,44 @@ public final class EdgeCallsTest {
         taken("what", 0, 16, -1, keys::count);
         RightKeys fresh = new RightKeys();
         taken("what of a new object", 0, 16, -1, fresh::count);
+    }
+
+    private static void countWhere() {
+        Calls.sentence("37: 4 who is IN, 5 OUT, 6 OUTSIDE (bits)");
+        RightKeys keys = eight();
+        for (int hour = 6; hour < 30; hour++) {
+            int[] bits = new int[3];
+            for (int house = 0; house < 8; house++) {
+                bits[keys.house(house, 3)] |= 1 << house;
+            }
+            for (int where = 0; where < 3; where++) {
+                Calls.due("count(" + (4 + where) + ") at " + hour, keys.count(4 + where), bits[where]);
+            }
+            keys.hours(1);
+        }
+        RightKeys all = Calls.told(STUCK);
+        Calls.due("all IN", all.count(4), 3);
+        Calls.due("none OUT", all.count(5), 0);
+        all.hours(10);
+        Calls.due("none IN", all.count(4), 0);
+        Calls.due("b OUT", all.count(5), 2);
+        Calls.due("a OUTSIDE", all.count(6), 1);
+    }
+
+    private static void countBits() {
+        Calls.sentence("37: 8 who is KEPT IN (bits)");
+        RightKeys keys = eight();
+        Calls.due("g", keys.count(8), 64);
+        keys.keep(0, true);
+        keys.keep(7, true);
+        Calls.due("a, g, h", keys.count(8), 128 + 64 + 1);
+        Calls.sentence("37: 15 SPARES that have a goal (bits)");
+        Calls.due("the SPARE 1", keys.count(15), 2);
+        keys.pass(0, 0);
+        keys.pass(5, 7);
+        Calls.due("0, 1, 5, one being there", keys.count(15), 32 + 2 + 1);
+        keys.pass(1, -1);
+        Calls.due("0, 5", keys.count(15), 32 + 1);
     }
 
     private static void countUndone() {

@@ -15,6 +15,7 @@ public final class EdgeHoursTest {
         notLookedAt();
         everyLawDividedByZero();
         varsNotTold();
+        varsTold();
         varsForAll();
         letsMoreThanZero();
         letsWaited();
@@ -168,16 +169,41 @@ public final class EdgeHoursTest {
         Calls.due("LATE, else", behind("house a 1 3 0;seed 2;late=1+1/1;", 4).house(0, 8), 1);
     }
 
+    /** Squares, so that what is below 0 would be seen, too. */
     private static void varsNotTold() {
         Calls.sentence("a VAR not told for a LAW is 0 in it");
         String outside = "house a 1 3 5;house b 1 9 6;spare a b;spare b a;spare b a;";
-        Calls.due("LETS: keys", Calls.told(outside + "lets=keys;").lets(0, 1), 0);
-        Calls.due("LETS: keys, other way", Calls.told(outside + "lets=keys;").lets(1, 0), 0);
-        Calls.due("QUARREL: other, keys", behind(outside + "lets=0;quarrel=other+keys;", 8).count(7), 0);
-        RightKeys rent = behind(outside + "lets=0;rent=waited+other;", 8);
+        Calls.due("LETS: keys", Calls.told(outside + "lets=keys*keys;").lets(0, 1), 0);
+        Calls.due("LETS: keys, other way", Calls.told(outside + "lets=keys*keys;").lets(1, 0), 0);
+        Calls.due("QUARREL: other, keys", behind(outside + "lets=0;quarrel=other*other+keys*keys;", 8).count(7), 0);
+        RightKeys rent = behind(outside + "lets=0;rent=waited*waited+other*other;", 8);
         Calls.due("a waited", rent.house(0, 4), 5);
         Calls.due("RENT: waited, other", rent.house(0, 9), 0);
-        Calls.due("LATE: waited, other, keys", behind(outside + "late=100*(waited+other+keys);", 4).house(0, 8), 0);
+        Calls.due("LATE: waited, other, keys", behind(outside + "late=100*(waited*waited+other*other+keys*keys);", 4).house(0, 8), 0);
+    }
+
+    private static void varsTold() {
+        Calls.sentence("LETS .. (.. temper: the opener's, other: that one's; which: the HOUSE of that one)");
+        RightKeys lets = Calls.told("house a 1 2 9;house b 1 2 0;house c 1 2 4;spare c c;lets=temper-other*which;");
+        Calls.due("a, b: 9 - 0 * 1", lets.lets(0, 1), 1);
+        Calls.due("a, c: 9 - 4 * 2", lets.lets(0, 2), 1);
+        Calls.due("b, c: 0 - 4 * 2", lets.lets(1, 2), 0);
+        Calls.due("c, a: 4 - 9 * 0", lets.lets(2, 0), 1);
+        Calls.due("b, a: 0 - 9 * 0", lets.lets(1, 0), 0);
+        Calls.sentence("QUARREL .. (waited ..; temper; which)");
+        String stuck = "house a 9 9 1;house b 1 3 7;lets=0;";
+        Calls.due("b: 70 + 1", behind(stuck + "quarrel=temper*10+which;", 4).count(7), 71);
+        Calls.sentence("RENT of a HOUSE (which; temper; keys: how many SPARES are in its letterbox)");
+        RightKeys rent = Calls.told("house a 1 2 3;house b 1 2 4;house c 1 2 5;spare a b;spare a a;spare b b;spare c b;"
+            + "rent=which*30+temper+keys*10;");
+        Calls.due("a: 3 and one SPARE", rent.house(0, 9), 13);
+        Calls.due("b: 30 + 4 and three SPARES", rent.house(1, 9), 64);
+        Calls.due("c: 60 + 5 and none", rent.house(2, 9), 65);
+        Calls.sentence("LATE of one (temper; which: their HOUSE)");
+        String late = "house a 1 3 4;house b 1 3 9;house c 1 3 4;late=if temper<5 then which*50 else 0;";
+        Calls.due("c alone", behind(late, 4).house(2, 8), 1);
+        Calls.due("not a", behind(late, 4).house(0, 8), 0);
+        Calls.due("not b", behind(late, 4).house(1, 8), 0);
     }
 
     private static void varsForAll() {

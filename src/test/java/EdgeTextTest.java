@@ -32,6 +32,7 @@ public final class EdgeTextTest {
         placeIsAByte();
         placeOfTheEnd();
         firstByItsPlace();
+        firstOfTwoTells();
         leastOfOnePlace();
         syntax();
         tokens401();
@@ -46,6 +47,8 @@ public final class EdgeTextTest {
         senseByPlace();
         faultsChangeNothing();
         newTextInPlace();
+        anEmptyTextInPlace();
+        textsBehindTexts();
         newObject();
         feedOrder();
         feedFull();
@@ -330,6 +333,20 @@ public final class EdgeTextTest {
         Calls.fault("rent=((((((?(", 1, 11);
     }
 
+    /** A TELL that is broken off by the next one: its own place counts, whatever the next one is like. */
+    private static void firstOfTwoTells() {
+        Calls.sentence("FAULTS of a text, the first by its place");
+        String[] broken = {"house ", "house a ", "house a 1 ", "house a 1 2 ", "house a 1 2 3 ", "spare ", "spare a ", "spare a a ", "both ",
+            "both a ", "seed ", "seed 1 ", "lets ", "lets =", "lets =1 ", "lets =1+", "lets =(", "lets =(1 ", "lets =if ", "lets =if 1 ",
+            "lets =if 1<", "lets =if 1<2 ", "lets =if 1<2 then ", "lets =if 1<2 then 3 ", "lets =if 1<2 then 3 else "};
+        for (String tell : broken) {
+            for (String next : new String[] {"house ?", "spare q q;", "both q;", "lets=1;?", "seed 1"}) {
+                Calls.fault(tell + next, 1, tell.length());
+                Calls.fault("house q 24 2 3;" + tell + next, 1, 15 + tell.length());
+            }
+        }
+    }
+
     private static void leastOfOnePlace() {
         Calls.sentence("FAULTS .. of one place the least");
         String all = "seed 1;".repeat(132) + "rent=1;";
@@ -368,6 +385,11 @@ public final class EdgeTextTest {
         Calls.fault(most + "*(", 2, most.length() + 1);
         Calls.fault("seed 1;".repeat(133) + "seed ", 1, 936);
         Calls.fault("seed 1;".repeat(133) + "seed 1", 2, 936);
+        Calls.due("a LAW of all that are left", Calls.told(A + "rent=7" + "*1".repeat(195) + ";").count(16), 7);
+        Calls.fault(A + "rent=7" + "*1".repeat(196) + ";", 2, A.length() + 6 + 2 * 195 + 1);
+        String ifs = "if 2<1 then 3 else if 2<1 then 3 else if 2<1 then 3 else if 2<1 then 3 else ";
+        Calls.due("with 4 ifs", Calls.told(A + "rent=" + ifs + "8" + "*1".repeat(181) + ";").count(16), 8);
+        Calls.fault(A + "rent=" + ifs + "8" + "*1".repeat(182) + ";", 2, A.length() + 5 + ifs.length() + 1 + 2 * 181 + 1);
     }
 
     private static void oneMoreOfASort() {
@@ -403,7 +425,11 @@ public final class EdgeTextTest {
         Calls.due("7 that are not", Calls.told(A + "rent=(1)+(1)+(1)+(1)+(1)+(1)+(1);").count(16), 7);
         Calls.due("the 7th behind a )", Calls.told(A + "rent=((((((1))+(2)))));").count(16), 3);
         Calls.fault("rent=((((((1)+((2))))))));", 2, 15);
-        Calls.fault("rent=if ((((((1))))))<(((((((2))))))) then 1 else 2;", 2, 28);
+        String seven = "(((((((1)))))))";
+        Calls.fault("rent=if " + seven + "<2 then 3 else 4;", 2, 8 + 6);
+        Calls.fault("rent=if 1<" + seven + " then 3 else 4;", 2, 10 + 6);
+        Calls.fault("rent=if 1<2 then " + seven + " else 4;", 2, 17 + 6);
+        Calls.fault("rent=if 1<2 then 3 else " + seven + ";", 2, 24 + 6);
         Calls.due("6 in each E", Calls.told(A + "rent=if((((((1))))))<((((((2))))))then((((((3))))))else((((((4))))));").count(16), 3);
         Calls.due("each has its own",
             Calls.told(A + "rent=(1+(1+(1+(1+(1+(1+1))))))*((((((2))))));").count(16), 14);
@@ -483,27 +509,55 @@ public final class EdgeTextTest {
         }
     }
 
-    private static void newTextInPlace() {
-        RightKeys keys = Calls.told("house a 1 3 3;house b 1 2 4;spare a b;seed 3;rent=5;late=100;lets=0;both a;");
-        keys.keep(0, true);
-        keys.pass(0, 1);
+    /** At 30 a, who was b, stands OUTSIDE, b, who was a, is LATE; there were QUARRELS, and c was let in by a SPARE. */
+    private static RightKeys longAgo() {
+        RightKeys keys = Calls.told("house a 1 2 3;house b 1 5 4;house c 1 3 5;spare c c;spare a b;seed 3;rent=5;lets=0;both a;"
+            + "late=if temper<4 then 100 else 0;");
+        keys.keep(2, true);
+        keys.keep(2, false);
+        keys.pass(1, 2);
         keys.change(0, 1);
-        keys.hours(30);
+        keys.hours(27);
+        keys.hours(3);
+        keys.keep(1, true);
         keys.hold(0);
+        keys.hold(2);
         keys.tell(1, true);
-        Calls.feed(keys, "house c 5 6 7;house d 8 9 1;spare d d;");
         Calls.sentence("else it is in place of the one ahead");
+        for (int what : new int[] {2, 4, 6, 7, 8, 10, 11, 12, 13, 14, 15}) {
+            Calls.due("count(" + what + ") ahead is not 0", keys.count(what) != 0, true);
+        }
+        Calls.due("they had changed", keys.house(0, 7), 1);
+        return keys;
+    }
+
+    private static void newTextInPlace() {
+        RightKeys keys = longAgo();
+        Calls.feed(keys, "house c 5 6 7;house d 8 9 1;house e 8 9 2;spare d d;spare d d;");
         Calls.due("read", keys.read(), 0);
         Calls.due("GO", keys.house(0, 0), 5);
-        Calls.due("RENT is not told", keys.house(0, 9), 2);
+        Calls.due("RENT is not told", keys.house(0, 9), 3);
         Calls.due("LETS is not told", keys.lets(0, 1), 1);
         Calls.due("BOTH is not told", keys.house(0, 6), 0);
+        Calls.due("SPARES have no goal", keys.count(15), 0);
+        Calls.due("nobody is KEPT IN", keys.count(8), 0);
+        Calls.due("no QUARRELS", keys.count(7), 0);
+        Calls.due("nobody was let IN", keys.count(13), 0);
+        Calls.due("nor by a SPARE", keys.count(14), 0);
+        Calls.due("by whom", keys.by(2), -2);
         Calls.sentence("hour 0, all IN");
         Calls.due("hour", keys.count(2), 0);
-        Calls.due("IN", keys.count(4), 3);
+        Calls.due("IN", keys.count(4), 7);
+        Calls.due("OUT", keys.count(5), 0);
+        Calls.due("OUTSIDE", keys.count(6), 0);
+        for (int house = 0; house < 3; house++) {
+            Calls.due("waited", keys.house(house, 4), 0);
+            Calls.due("LATE", keys.house(house, 8), 0);
+        }
         Calls.sentence("each in their own HOUSE");
-        Calls.due("the first", keys.house(0, 7), 0);
-        Calls.due("the second", keys.house(1, 7), 1);
+        for (int house = 0; house < 3; house++) {
+            Calls.due("whose NAME", keys.house(house, 7), house);
+        }
         Calls.sentence("nothing can be undone");
         Calls.due("things", keys.count(10), 0);
         Calls.due("undo", keys.undo(), false);
@@ -513,10 +567,40 @@ public final class EdgeTextTest {
         Calls.sentence("SLOTS hold nothing");
         Calls.due("SLOTS", keys.count(12), 0);
         Calls.due("restore", keys.restore(0), false);
-        Calls.sentence("else it is in place of the one ahead");
+    }
+
+    private static void anEmptyTextInPlace() {
+        RightKeys keys = longAgo();
         Calls.due("read of an empty tape", keys.read(), 0);
-        Calls.due("no HOUSES", keys.count(0), 0);
-        Calls.due("no SPARES", keys.count(1), 0);
+        for (int what = 0; what <= 16; what++) {
+            Calls.due("count(" + what + ")", keys.count(what), 0);
+        }
+        Calls.due("no HOUSE", keys.house(0, 0), -1);
+        Calls.due("no SPARE", keys.spare(0, 0), -1);
+    }
+
+    /** What one text tells is not told by the next ones. */
+    private static void textsBehindTexts() {
+        Calls.sentence("else it is in place of the one ahead");
+        RightKeys keys = new RightKeys();
+        for (int i = 0; i < 6; i++) {
+            Calls.feed(keys, "house a 1 3 0;house b 9 9 0;both a;seed 2;rent=7;quarrel=8;lets=0;late=1;spare a b;");
+            keys.read();
+            Calls.due("LATE by the SEED 2", keys.then(0, 4, 0), 1);
+            for (int j = 0; j <= i % 3; j++) {
+                Calls.feed(keys, j % 2 == 0 ? "house a 1 3 0;house b 2 9 0;" : "house a 24 3 0;both a;seed 2;rent=7;lets=0;late=1;");
+                Calls.due("read", keys.read(), j % 2 == 0 ? 0 : 5);
+                Calls.due("BOTH", keys.house(0, 6), 0);
+                Calls.due("RENT", keys.house(0, 9), 2);
+                Calls.due("LETS", keys.lets(0, 1), 1);
+                Calls.due("LATE", keys.then(0, 4, 0), 2);
+                Calls.due("QUARREL", keys.then(0, 4, 2), 1);
+                Calls.due("SPARES", keys.count(1), 0);
+            }
+            Calls.feed(keys, "house a 1 3 0;house b 2 9 0;late=1;");
+            keys.read();
+            Calls.due("not LATE by the SEED 0", keys.then(0, 4, 0), 2);
+        }
     }
 
     // ---- promises 1 to 5
@@ -616,6 +700,10 @@ public final class EdgeTextTest {
             RightKeys keys = new RightKeys();
             Calls.feed(keys, texts[number]);
             Calls.due("read of " + texts[number], keys.read(), number);
+            Calls.feed(keys, A);
+            Calls.due("read of a text without, behind it", keys.read(), 0);
+            Calls.feed(keys, texts[number]);
+            Calls.due("read of it again", keys.read(), number);
         }
     }
 

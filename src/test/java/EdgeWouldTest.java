@@ -107,6 +107,12 @@ public final class EdgeWouldTest {
         Calls.due("then: nobody waited, no QUARRELS", keys.then(0, 72, 2), 0);
         Calls.due("rents: nobody is inside", keys.rents(4), 0);
         Calls.due("year: nobody is OUTSIDE", keys.year(4, 1), 1);
+        Calls.due("whatever was asked ahead: stand", keys.stand(0, 4), 1);
+        Calls.due("then", keys.then(0, 4, 0), 1);
+        keys.stay(0);
+        Calls.due("rents", keys.rents(4), 0);
+        keys.shut(0);
+        Calls.due("year", keys.year(4, 1), 1);
     }
 
     private static void nobodyLateElse() {
@@ -145,6 +151,8 @@ public final class EdgeWouldTest {
         Calls.due("to the right", Calls.told("house a 9 9 0;house b 9 9 0;house c 9 9 0;both c;").openers(1), 5);
         Calls.due("its own", Calls.told("house a 9 9 0;house b 9 9 0;house c 9 9 0;both c;spare b b;").openers(1), 7);
         Calls.due("alone", Calls.told("house a 9 9 0;").openers(0), 1);
+        Calls.due("alone, though OUT", behind("house a 1 9 0;", 2).openers(0), 1);
+        Calls.due("by a SPARE, though OUT", behind("house a 1 9 0;house b 1 9 0;spare a a;", 2).openers(0), 1);
         Calls.due("nobody", behind("house a 0 9 0;house b 0 9 0;both a;both b;spare a b;", 1).openers(0), 0);
     }
 
@@ -338,6 +346,9 @@ public final class EdgeWouldTest {
         Calls.due("who is IN already: a, who had not waited then",
             behind("house a 1 3 0;house b 9 9 0;lets=waited;", 4).frees(1), 1);
         Calls.due("alone", Calls.told("house a 1 3 0;").frees(0), 0);
+        RightKeys again = behind("house a 1 3 0;house b 9 9 0;house c 4 7 0;", 4);
+        Calls.due("a was let in", again.count(13), 1);
+        Calls.due("which does not count now", again.frees(1), 0);
     }
 
     private static void freesOneAfterAnother() {
@@ -439,6 +450,7 @@ public final class EdgeWouldTest {
         RightKeys keys = Calls.told("house a 1 2 0;house b 1 2 0;house c 1 2 0;spare a b;spare b a;spare a c;spare a c;spare b b;");
         Calls.due("two alike", keys.soonest(0, 0), 2);
         Calls.due("a day", keys.soonest(0, 1), 1);
+        Calls.due("the SPARE 0 alike", Calls.told("house a 1 2 0;house b 1 2 0;spare a b;spare a b;").soonest(0, 0), 0);
         Calls.due("there", keys.soonest(1, 0), 4);
         Calls.due("no day", keys.soonest(1, 1), 0);
         Calls.due("none to the door", keys.soonest(2, 0), -2);
@@ -485,6 +497,12 @@ public final class EdgeWouldTest {
         RightKeys late = behind("house a 1 3 0;house b 2 3 0;late=if which<1 then 0 else 100;", 4);
         Calls.due("b was LATE", late.house(1, 8), 1);
         Calls.due("b, who would let a in now, does not come", late.shut(1), 1);
+        RightKeys stands = behind("house a 1 3 0;house b 1 5 0;house c 2 9 0;", 4);
+        Calls.due("a stands OUTSIDE", stands.count(6), 1);
+        Calls.due("and would let b in at 5, were a not OUT", stands.shut(0), 2);
+        RightKeys never = behind(STUCK, 4);
+        never.tell(0, false);
+        Calls.due("a, OUTSIDE now, stands no more, being OUT", never.overslept(1, 1), 1);
     }
 
     private static void thenHours() {
