@@ -44,6 +44,24 @@ final class Calls {
         return keys;
     }
 
+    /** An object that was told a text and went through hours, 72 at a time at most. */
+    static RightKeys behind(String text, int hours) {
+        RightKeys keys = told(text);
+        for (int left = hours; left > 0; left -= 72) {
+            keys.hours(Math.min(72, left));
+        }
+        return keys;
+    }
+
+    /** So many HOUSES a, b, c .., all with the same numbers. */
+    static String houses(int n, String numbers) {
+        StringBuilder b = new StringBuilder();
+        for (int i = 0; i < n; i++) {
+            b.append("house ").append((char) ('a' + i)).append(' ').append(numbers).append(';');
+        }
+        return b.toString();
+    }
+
     static void fault(String text, int number, int place) {
         RightKeys keys = new RightKeys();
         feed(keys, text);

@@ -442,8 +442,7 @@ public final class EdgeCallsTest {
 
     private static void changeBest() {
         Calls.sentence("19: what 0 the two (10 * the lesser + the other), 1 STAND then; .. NONE for others");
-        RightKeys keys = Calls.told("house a 9 9 0;house b 9 9 0;house c 9 9 0;house d 9 9 0;house e 9 9 0;house f 9 9 0;"
-            + "house g 9 9 0;house h 1 3 0;spare g g;lets=0;");
+        RightKeys keys = Calls.told(Calls.houses(7, "9 9 0") + "house h 1 3 0;spare g g;lets=0;");
         for (int house = 0; house < 7; house++) {
             keys.keep(house, true);
         }

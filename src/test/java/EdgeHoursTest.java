@@ -48,19 +48,7 @@ public final class EdgeHoursTest {
     }
 
     private static RightKeys behind(String text, int hours) {
-        RightKeys keys = Calls.told(text);
-        for (int left = hours; left > 0; left -= 72) {
-            keys.hours(Math.min(72, left));
-        }
-        return keys;
-    }
-
-    private static String eightHouses(String numbers) {
-        StringBuilder b = new StringBuilder();
-        for (int i = 0; i < 8; i++) {
-            b.append("house ").append((char) ('a' + i)).append(numbers);
-        }
-        return b.toString();
+        return Calls.behind(text, hours);
     }
 
     private static void rent(String law, int want) {
@@ -184,12 +172,16 @@ public final class EdgeHoursTest {
 
     private static void varsTold() {
         Calls.sentence("LETS .. (.. temper: the opener's, other: that one's; which: the HOUSE of that one)");
-        RightKeys lets = Calls.told("house a 1 2 9;house b 1 2 0;house c 1 2 4;spare c c;lets=temper-other*which;");
-        Calls.due("a, b: 9 - 0 * 1", lets.lets(0, 1), 1);
-        Calls.due("a, c: 9 - 4 * 2", lets.lets(0, 2), 1);
-        Calls.due("b, c: 0 - 4 * 2", lets.lets(1, 2), 0);
-        Calls.due("c, a: 4 - 9 * 0", lets.lets(2, 0), 1);
-        Calls.due("b, a: 0 - 9 * 0", lets.lets(1, 0), 0);
+        String three = "house a 1 2 9;house b 1 2 0;house c 1 2 4;lets=";
+        RightKeys temper = Calls.told(three + "temper-4;");
+        Calls.due("temper of a", temper.lets(0, 1), 1);
+        Calls.due("temper of c", temper.lets(2, 0), 0);
+        RightKeys other = Calls.told(three + "other-4;");
+        Calls.due("other: a", other.lets(1, 0), 1);
+        Calls.due("other: c", other.lets(0, 2), 0);
+        RightKeys which = Calls.told(three + "which-1;");
+        Calls.due("which: c", which.lets(0, 2), 1);
+        Calls.due("which: b", which.lets(2, 1), 0);
         Calls.sentence("QUARREL .. (waited ..; temper; which)");
         String stuck = "house a 9 9 1;house b 1 3 7;lets=0;";
         Calls.due("b: 70 + 1", behind(stuck + "quarrel=temper*10+which;", 4).count(7), 71);
@@ -303,7 +295,7 @@ public final class EdgeHoursTest {
         }
         int[] eight = {60, 93, 76, 3, 93, 52, 87, 32};
         for (int house = 0; house < 8; house++) {
-            String text = eightHouses(" 1 3 0;") + "seed 9999;late=";
+            String text = Calls.houses(8, "1 3 0") + "seed 9999;late=";
             Calls.due("house " + house + ", one more", behind(text + (eight[house] + 1) + ";", 4).house(house, 8), 1);
             Calls.due("house " + house + ", as much", behind(text + eight[house] + ";", 4).house(house, 8), 0);
         }
@@ -336,7 +328,7 @@ public final class EdgeHoursTest {
         Calls.due("the last opens for the first", behind("house a 1 3 0;house b 0 8 0;house c 9 9 0;", 4).by(0), 2);
         Calls.due("the first, with BOTH, for the last", behind("house a 9 9 0;house b 0 8 0;house c 1 3 0;both a;", 4).by(2), 0);
         Calls.due("the first, without, does not", behind("house a 9 9 0;house b 0 8 0;house c 1 3 0;", 4).house(2, 3), 2);
-        String eight = eightHouses(" 1 2 3;");
+        String eight = Calls.houses(8, "1 2 3");
         Calls.due("openers of the first of 8", Calls.told(eight).openers(0), 128);
         Calls.due("openers of the last of 8", Calls.told(eight + "both a;").openers(7), 64 + 1);
         Calls.due("of two both are left and right", behind("house a 1 3 0;house b 9 9 0;", 4).by(0), 1);
@@ -440,7 +432,7 @@ public final class EdgeHoursTest {
     /** House i is let in as soon as 7 - i are inside, so each round, from the last HOUSE on, lets in one. */
     private static void roundsAgain() {
         Calls.sentence("HOUSE by HOUSE, and again, as long as anybody was let in");
-        String eight = eightHouses(" 1 3 0;");
+        String eight = Calls.houses(8, "1 3 0");
         RightKeys keys = behind(eight + "spare h h;lets=inside+which-6;", 4);
         Calls.due("eight rounds: all are IN", keys.count(4), 255);
         Calls.due("in the hour itself", keys.count(7), 0);
@@ -464,7 +456,7 @@ public final class EdgeHoursTest {
     /** All eight come at 1 and stay OUTSIDE, kept from going: 792 QUARRELS an hour. */
     private static void quarrelsAtMost() {
         Calls.sentence("QUARRELS .. (99,999 at most, all together)");
-        RightKeys keys = behind(eightHouses(" 0 1 0;") + "lets=0;quarrel=99;", 2);
+        RightKeys keys = behind(Calls.houses(8, "0 1 0") + "lets=0;quarrel=99;", 2);
         for (int house = 0; house < 8; house++) {
             keys.keep(house, true);
         }

@@ -49,6 +49,7 @@ public final class EdgeTextTest {
         newTextInPlace();
         anEmptyTextInPlace();
         textsBehindTexts();
+        longTextsBehindLongTexts();
         newObject();
         feedOrder();
         feedFull();
@@ -61,11 +62,7 @@ public final class EdgeTextTest {
     }
 
     private static String houses(int n) {
-        StringBuilder b = new StringBuilder();
-        for (int i = 0; i < n; i++) {
-            b.append("house ").append((char) ('a' + i)).append(" 1 2 3;");
-        }
-        return b.toString();
+        return Calls.houses(n, "1 2 3");
     }
 
     private static String padded(String text, int length) {
@@ -127,7 +124,7 @@ public final class EdgeTextTest {
         for (String word : WORDS) {
             Calls.fault("house " + word + " 1 2 3;", 1, 6);
             Calls.fault(A + "both " + word + ";", 1, 19);
-            Calls.fault("house " + word.substring(1) + "q 1 2 3;", 0, -1);
+            Calls.fault("house z" + word.substring(1) + " 1 2 3;", 0, -1);
             Calls.fault("house " + word + "q 1 2 3;", 0, -1);
             Calls.fault("house " + word.substring(0, word.length() - 1) + "q 1 2 3;", 0, -1);
         }
@@ -509,25 +506,24 @@ public final class EdgeTextTest {
         }
     }
 
-    /** At 30 a, who was b, stands OUTSIDE, b, who was a, is LATE; there were QUARRELS, and c was let in by a SPARE. */
+    /** At 27 b, in the HOUSE 0, stands OUTSIDE; a, in the HOUSE 1, is LATE; c, let in by a SPARE, is IN; there were QUARRELS. */
     private static RightKeys longAgo() {
-        RightKeys keys = Calls.told("house a 1 2 3;house b 1 5 4;house c 1 3 5;spare c c;spare a b;seed 3;rent=5;lets=0;both a;"
+        RightKeys keys = Calls.told("house a 1 2 3;house b 1 2 4;house c 9 10 5;spare c c;spare a b;seed 3;rent=5;lets=0;both a;"
             + "late=if temper<4 then 100 else 0;");
-        keys.keep(2, true);
-        keys.keep(2, false);
         keys.pass(1, 2);
         keys.change(0, 1);
         keys.hours(27);
-        keys.hours(3);
         keys.keep(1, true);
         keys.hold(0);
         keys.hold(2);
         keys.tell(1, true);
         Calls.sentence("else it is in place of the one ahead");
-        for (int what : new int[] {2, 4, 6, 7, 8, 10, 11, 12, 13, 14, 15}) {
+        for (int what : new int[] {2, 4, 5, 6, 7, 8, 10, 11, 12, 13, 14, 15}) {
             Calls.due("count(" + what + ") ahead is not 0", keys.count(what) != 0, true);
         }
         Calls.due("they had changed", keys.house(0, 7), 1);
+        Calls.due("b had waited", keys.house(0, 4), 1);
+        Calls.due("a was LATE", keys.house(1, 8), 1);
         return keys;
     }
 
@@ -600,6 +596,16 @@ public final class EdgeTextTest {
             Calls.feed(keys, "house a 1 3 0;house b 2 9 0;late=1;");
             keys.read();
             Calls.due("not LATE by the SEED 0", keys.then(0, 4, 0), 2);
+        }
+    }
+
+    private static void longTextsBehindLongTexts() {
+        Calls.sentence("else it is in place of the one ahead");
+        RightKeys keys = new RightKeys();
+        for (int i = 0; i < 6; i++) {
+            Calls.feed(keys, A + "rent=" + (i + 5) + "*1".repeat(195) + ";");
+            Calls.due("read of 400 TOKENS", keys.read(), 0);
+            Calls.due("RENT", keys.house(0, 9), i + 5);
         }
     }
 

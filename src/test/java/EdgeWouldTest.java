@@ -55,9 +55,7 @@ public final class EdgeWouldTest {
     }
 
     private static RightKeys behind(String text, int hours) {
-        RightKeys keys = Calls.told(text);
-        keys.hours(hours);
-        return keys;
+        return Calls.behind(text, hours);
     }
 
     private static RightKeys night(int hours) {
@@ -353,11 +351,7 @@ public final class EdgeWouldTest {
 
     private static void freesOneAfterAnother() {
         Calls.sentence("would be let IN now, one after another");
-        StringBuilder eight = new StringBuilder();
-        for (int i = 0; i < 8; i++) {
-            eight.append("house ").append((char) ('a' + i)).append(" 0 2 0;");
-        }
-        RightKeys keys = behind(eight + "lets=if inside<1 then 0 else inside+which-6;", 3);
+        RightKeys keys = behind(Calls.houses(8, "0 2 0") + "lets=if inside<1 then 0 else inside+which-6;", 3);
         Calls.due("all stand", keys.count(6), 255);
         Calls.due("h in: g, f, e, d, c, b, a", keys.frees(7), 7);
         Calls.due("e in: g and h, then f, d, c, b, a", keys.frees(4), 7);
@@ -430,11 +424,7 @@ public final class EdgeWouldTest {
 
     private static void daysRound() {
         Calls.sentence("DAYS of a SPARE to a HOUSE: how often it must go to the right");
-        StringBuilder eight = new StringBuilder();
-        for (int i = 0; i < 8; i++) {
-            eight.append("house ").append((char) ('a' + i)).append(" 1 2 0;");
-        }
-        RightKeys keys = Calls.told(eight + "spare a a;spare a h;spare a d;");
+        RightKeys keys = Calls.told(Calls.houses(8, "1 2 0") + "spare a a;spare a h;spare a d;");
         Calls.due("from the first to the last", keys.days(0, 7), 7);
         Calls.due("from the last to the first", keys.days(1, 0), 1);
         Calls.due("to the left is all round", keys.days(2, 2), 7);
