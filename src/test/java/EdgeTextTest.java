@@ -56,6 +56,7 @@ public final class EdgeTextTest {
         back();
         backRefused();
         readEmpties();
+        readAnew();
         readNumbers();
         place();
         Calls.end();
@@ -318,6 +319,7 @@ public final class EdgeTextTest {
         Calls.fault("seed 1", 1, 6);
         Calls.fault("seed 1 \n\t", 1, 9);
         Calls.fault(padded("seed 1", 2000), 1, 2000);
+        Calls.fault(padded("seed", 2000), 1, 2000);
         Calls.fault("seed 1;seed 1" + " ".repeat(1987), 1, 2000);
     }
 
@@ -671,6 +673,14 @@ public final class EdgeTextTest {
         keys.back(A.length());
         Calls.due("the first stay", keys.read(), 0);
         Calls.due("its HOUSE", keys.count(0), 1);
+        Calls.feed(keys, "house");
+        keys.back(1);
+        keys.read();
+        Calls.due("a letter that went is not read: hous", keys.place(), 0);
+        Calls.feed(keys, "seed 12345");
+        keys.back(1);
+        keys.read();
+        Calls.due("a digit that went is not read: 1234", keys.place(), 9);
     }
 
     private static void backRefused() {
@@ -697,6 +707,23 @@ public final class EdgeTextTest {
         RightKeys full = fedTo(2000);
         full.read();
         Calls.due("a full tape is empty, too", full.feed(0, 0, 0, 0, 0), 20);
+    }
+
+    /** Each text is read by itself, whatever the ones ahead were. */
+    private static void readAnew() {
+        Calls.sentence("4: The tape .. is read");
+        String[] ahead = {"?", "seed?", "seed 1?", "seed 1;?", "seed 1;seed?", "seed 1;seed 1?", "seed", "seed 1", "seed 1;seed"};
+        for (String text : ahead) {
+            RightKeys keys = new RightKeys();
+            for (String next : new String[] {A, "seed 1", "", "both", "house a 1 2"}) {
+                Calls.feed(keys, text);
+                Calls.due("read of " + text, keys.read(), 1);
+                Calls.feed(keys, next);
+                boolean whole = next.isEmpty() || next.endsWith(";");
+                Calls.due("read of " + next + " behind " + text, keys.read(), whole ? 0 : 1);
+                Calls.due("place", keys.place(), whole ? -1 : next.length());
+            }
+        }
     }
 
     private static void readNumbers() {

@@ -151,6 +151,7 @@ public final class EdgeWouldTest {
         Calls.due("alone", Calls.told("house a 9 9 0;").openers(0), 1);
         Calls.due("alone, though OUT", behind("house a 1 9 0;", 2).openers(0), 1);
         Calls.due("by a SPARE, though OUT", behind("house a 1 9 0;house b 1 9 0;spare a a;", 2).openers(0), 1);
+        Calls.due("of two the same one", Calls.told("house a 9 9 0;house b 9 9 0;both a;both b;").openers(0), 2);
         Calls.due("nobody", behind("house a 0 9 0;house b 0 9 0;both a;both b;spare a b;", 1).openers(0), 0);
     }
 
