@@ -21,6 +21,8 @@ public final class RightKeys {
     private static final int SLOTS = 3;
     private static final int DAY_HOURS = 24;
     private static final int BYTES_FED = 20;
+    /** More than any STAND, and than any number of HOUSES: where the least is sought. */
+    private static final int TOO_MUCH = 1000000;
 
     private static final int SYNTAX = 1;
     private static final int ROOM = 2;
@@ -312,7 +314,7 @@ public final class RightKeys {
             return NONE;
         }
         int best = 0;
-        int bestStand = Integer.MAX_VALUE;
+        int bestStand = TOO_MUCH;
         int bestWay = DAY_HOURS;
         for (int come = 0; come < DAY_HOURS; come++) {
             startTrial();
@@ -540,7 +542,7 @@ public final class RightKeys {
 
     private int bestToAsk(int left) {
         int best = 0;
-        int fewest = Integer.MAX_VALUE;
+        int fewest = TOO_MUCH;
         int all = Integer.bitCount(left);
         for (int house = 0; house < text.houses; house++) {
             int stood = countStood(left, house);
